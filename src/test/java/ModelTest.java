@@ -19,7 +19,7 @@ public final class ModelTest {
 
     private ModelTest(int seed) {
         random = new Random(seed);
-        manner = seed % 5;
+        manner = seed % 6;
         int asked = random.nextInt(10) - 1;
         states = Math.max(2, Math.min(6, asked));
         x = new StateShares(asked);
@@ -39,6 +39,8 @@ public final class ModelTest {
         int calls = 0;
         if (manner == 1 || manner == 3) {
             calls = markMuch();
+        } else if (manner == 5) {
+            calls = markAll();
         }
         while (calls < CALLS) {
             calls += random.nextInt(12) == 0 ? text() : step();
@@ -51,6 +53,19 @@ public final class ModelTest {
             tryMark(random.nextInt(10), random.nextInt(12), random.nextInt(4), random.nextInt(states));
         }
         return made;
+    }
+
+    /** Every thing in every year, so that shares have great lower parts once groups are great. */
+    private int markAll() {
+        for (int thing = 0; thing < 10; thing++) {
+            int state = random.nextInt(states);
+            for (int year = 0; year < 12; year++) {
+                state = random.nextInt(3) == 0 ? random.nextInt(states) : state;
+                tryMark(thing, year, 0, state);
+            }
+        }
+        due("least(50)", bit(m.least(50)), bit(x.least(50)));
+        return 121;
     }
 
     /** Mostly in 0 .. bound - 1, sometimes beside it. */

@@ -11,6 +11,7 @@ public final class PromiseForecastTest {
         tooLongAbove();
         shortAgainWithinAYear();
         sums();
+        farApartShares();
         Check.finish();
     }
 
@@ -239,5 +240,30 @@ public final class PromiseForecastTest {
         Check.yes("all together", x.sums(11));
         x.start(2, 167, 1000);
         Check.no("more than 1", x.sums(0));
+    }
+
+    /** Shares of one group with lower parts 98, 99, 103, 101, 97 and 95; answers worked out beside the program. */
+    private static void farApartShares() {
+        String[] walks = {"444444444422", "255555000000", "000000044444", "331122555333", "333044440000", "222333333333",
+            "111331133325", "333455000222", "422233555500", "422224444444"};
+        StateShares x = new StateShares(6);
+        for (int thing = 0; thing < 10; thing++) {
+            for (int year = 0; year < 12; year++) {
+                x.mark(thing, year, 0, walks[thing].charAt(year) - '0');
+            }
+        }
+        x.least(50);
+        for (int s = 0; s < 6; s++) {
+            x.start(s, 1, 6);
+        }
+        dueAt(x, 0, 1, 899452538261L, 5580414502740L);
+        dueAt(x, 5, 1, 4859439121L, 28471502565L);
+        long[] last = {326104284085528171L, 213255650000000000L, 809116014340730927L, 245146168726325267L, 470540704669421854L,
+            427781554499470569L, 513884677254721760L, 182183431251343038L, 347372416372204073L, 905047637963484140L,
+            381664186717595928L, 84740605163570205L, 636458106641178847L, 942988675512143573L, 2692L, 13789L, 0L, 0L};
+        for (int part = 0; part < last.length; part++) {
+            Check.due("at(5, 11, " + part + ")", last[part], x.at(5, 11, part));
+        }
+        Check.yes("sums(11)", x.sums(11));
     }
 }

@@ -43,7 +43,7 @@ public final class PromiseRulesTest {
 
     private static void wrongTexts() {
         StateShares x = new StateShares(5);
-        String[] texts = {"", " ", "5", "005", "0004", "foo", "MAX", "maxi", "ma x", ";", ":", "<", "-1", "=1:2"};
+        String[] texts = {"", " ", "5", "005", "0004", "foo", "MAX", "maxi", "ma x", ";", ":", "<", "-1", "=1:2", "nX<1:1", "maxX", "midZ", "minA;0"};
         for (String text : texts) {
             Check.grade(x, text, -1);
         }

@@ -39,6 +39,10 @@ public final class PromiseWorthTest {
         x.part2(0, 9);
         dueWorth(x, 2, 1, 9, 1);
         dueWorth(x, 3, 1, 3, 1);
+        int[] below = {-2, -3, Integer.MIN_VALUE};
+        for (int part : below) {
+            Check.due("worth(3, " + part + ")", 0, x.worth(3, part));
+        }
         x.part2(1, 5);
         dueWorth(x, 3, 1, 23, 6);
         x.part2(2, -20);
@@ -60,6 +64,8 @@ public final class PromiseWorthTest {
         x.mark(0, 1, 0, 2);
         dueWorth(x, 0, 1, 6, 1);
         dueWorth(x, 1, -1, 20, 7);
+        x.event(0, 2, 1, 1, 2);
+        dueWorth(x, 1, 1, 11, 7);
     }
 
     private static void longWorth() {

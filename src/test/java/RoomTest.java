@@ -15,7 +15,7 @@ public final class RoomTest {
         before = made();
         dearCalls(x);
         behind = made();
-        Check.yes("512 calls take " + (behind - before) + " bytes", behind - before < 4_000);
+        Check.yes("512 calls take " + (behind - before) + " bytes", behind - before < 20_000);
         Check.finish();
     }
 
