@@ -16,6 +16,7 @@ public final class ModelTest {
     private final int states;
     private final int manner;
     private final String name;
+    private int calls;
 
     private ModelTest(int seed) {
         random = new Random(seed);
@@ -36,27 +37,30 @@ public final class ModelTest {
     }
 
     private void run() {
-        int calls = 0;
         if (manner == 1 || manner == 3) {
-            calls = markMuch();
+            markMuch();
         } else if (manner == 5) {
-            calls = markAll();
+            markAll();
         }
-        while (calls < CALLS) {
-            calls += random.nextInt(12) == 0 ? text() : step();
+        // A step makes two calls at most.
+        while (calls + 2 <= CALLS) {
+            if (random.nextInt(12) == 0) {
+                text(CALLS - calls - 1);
+            } else {
+                step();
+            }
         }
     }
 
-    private int markMuch() {
+    private void markMuch() {
         int made = 60 + random.nextInt(180);
         for (int i = 0; i < made; i++) {
             tryMark(random.nextInt(10), random.nextInt(12), random.nextInt(4), random.nextInt(states));
         }
-        return made;
     }
 
     /** Every thing in every year, so that shares have great lower parts once groups are great. */
-    private int markAll() {
+    private void markAll() {
         for (int thing = 0; thing < 10; thing++) {
             int state = random.nextInt(states);
             for (int year = 0; year < 12; year++) {
@@ -65,7 +69,6 @@ public final class ModelTest {
             }
         }
         due("least(50)", bit(m.least(50)), bit(x.least(50)));
-        return 121;
     }
 
     /** Mostly in 0 .. bound - 1, sometimes beside it. */
@@ -97,6 +100,7 @@ public final class ModelTest {
     }
 
     private void due(String call, long want, long got) {
+        calls++;
         Check.due(name + call, want, got);
     }
 
@@ -104,7 +108,7 @@ public final class ModelTest {
         return b ? 1 : 0;
     }
 
-    private int text() {
+    private void text(int room) {
         StringBuilder b = new StringBuilder();
         if (random.nextInt(3) == 0) {
             int words = random.nextInt(9);
@@ -117,11 +121,11 @@ public final class ModelTest {
                 b.append(i == 0 ? "" : ";").append(rules == 25 ? "0" : RULES[random.nextInt(RULES.length)]);
             }
         }
+        b.setLength(Math.min(room, b.length()));
         for (int i = 0; i < b.length(); i++) {
             due("unit(" + b.charAt(i) + ")", bit(m.unit(b.charAt(i))), bit(x.unit(b.charAt(i))));
         }
         due("grade() of \"" + b + "\"", m.grade(), x.grade());
-        return b.length() + 1;
     }
 
     private void tryMark(int thing, int year, int person, int state) {
@@ -140,7 +144,7 @@ public final class ModelTest {
         due("mark(" + thing + ", " + year + ", " + person + ", " + state + ")", want, got);
     }
 
-    private int step() {
+    private void step() {
         int r = random.nextInt(26);
         if (r < 8) {
             change(r);
@@ -149,7 +153,6 @@ public final class ModelTest {
         } else {
             askStates(r);
         }
-        return 1;
     }
 
     private void change(int which) {

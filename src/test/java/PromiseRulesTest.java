@@ -29,63 +29,65 @@ public final class PromiseRulesTest {
         Check.due("2", 1, x.grade());
     }
 
+    /** On a new object, as one is good for 512 calls alone. */
+    private static void grade(int states, String text, int want) {
+        Check.grade(new StateShares(states), text, want);
+    }
+
     private static void goodTexts() {
-        StateShares x = new StateShares(5);
         String[] texts = {"max", "min", "mid", "0", "4", "004", " max ", "n<3:max", "n = 2 : 1", "max>1:min", "min<999:mid",
             "#1>0:2", "# 7=0:4", "#999=000:0", "n>0:0"};
         for (String text : texts) {
-            Check.grade(x, text, 1);
-            Check.grade(x, text + ";" + text, 2);
-            Check.grade(x, " " + text + " ;  " + text + " ; max", 3);
+            grade(5, text, 1);
+            grade(5, text + ";" + text, 2);
+            grade(5, " " + text + " ;  " + text + " ; max", 3);
         }
-        Check.grade(x, "n<3:max;mid;2", 3);
+        grade(5, "n<3:max;mid;2", 3);
     }
 
     private static void wrongTexts() {
-        StateShares x = new StateShares(5);
         String[] texts = {"", " ", "5", "005", "0004", "foo", "MAX", "maxi", "ma x", ";", ":", "<", "-1", "=1:2", "nX<1:1", "maxX", "midZ", "minA;0"};
         for (String text : texts) {
-            Check.grade(x, text, -1);
+            grade(5, text, -1);
         }
         String[] second = {"n", "max max", "max 1", "1 2", "mid>1:1", "3<2", "max:1", "n 3:1", "#", "#x=0:1",
             "#1000=0:1", "#<0:1", "max.", "0a", "n:", "min,"};
         for (String text : second) {
-            Check.grade(x, text, -2);
+            grade(5, text, -2);
         }
         String[] third = {"max;", "max;;", "n<", "n<x:1", "n<1000:1", "n<-1:1", "max> :1", "#1", "#1:2", "#1 1", "n<<1:1", "n<=1:1",
             "max;5", "0;x"};
         for (String text : third) {
-            Check.grade(x, text, -3);
+            grade(5, text, -3);
         }
-        Check.grade(x, "n<2", -4);
-        Check.grade(x, "n<2;", -4);
-        Check.grade(x, "n<2 max", -4);
-        Check.grade(x, "#1>", -4);
-        Check.grade(x, "max;n:1", -4);
-        Check.grade(x, "n<2:", -5);
-        Check.grade(x, "n<2:5", -5);
-        Check.grade(x, "n<2:n", -5);
-        Check.grade(x, "#1>0", -5);
-        Check.grade(x, "n<2:1 1", -6);
-        Check.grade(x, "n<2:max>1:1", -6);
-        Check.grade(x, "#1>0:x", -6);
-        Check.grade(x, "n<2:1;", -7);
-        Check.grade(x, "n<2:3;;", -7);
-        Check.grade(x, "1;2;3;4;5;max", -9);
+        grade(5, "n<2", -4);
+        grade(5, "n<2;", -4);
+        grade(5, "n<2 max", -4);
+        grade(5, "#1>", -4);
+        grade(5, "max;n:1", -4);
+        grade(5, "n<2:", -5);
+        grade(5, "n<2:5", -5);
+        grade(5, "n<2:n", -5);
+        grade(5, "#1>0", -5);
+        grade(5, "n<2:1 1", -6);
+        grade(5, "n<2:max>1:1", -6);
+        grade(5, "#1>0:x", -6);
+        grade(5, "n<2:1;", -7);
+        grade(5, "n<2:3;;", -7);
+        grade(5, "1;2;3;4;5;max", -9);
     }
 
     private static void manyRules() {
-        StateShares x = new StateShares(2);
         String twenty = "0;".repeat(19) + "1";
-        Check.grade(x, twenty, 20);
-        Check.grade(x, twenty + ";1", -41);
-        Check.grade(x, twenty + ";", -41);
-        Check.grade(x, twenty + "; foo", -41);
-        Check.grade(x, twenty + ":", -40);
-        Check.grade(x, "0;".repeat(60), -41);
-        Check.grade(x, ";".repeat(120), -1);
-        Check.grade(x, "x".repeat(120), -1);
-        Check.grade(x, "1;" + "x".repeat(118), -3);
+        grade(2, twenty, 20);
+        grade(2, twenty + ";1", -41);
+        grade(2, twenty + ";", -41);
+        grade(2, twenty + "; foo", -41);
+        grade(2, twenty + ":", -40);
+        grade(2, "0;".repeat(60), -41);
+        grade(2, ";".repeat(120), -1);
+        grade(2, "x".repeat(120), -1);
+        grade(2, "1;" + "x".repeat(118), -3);
     }
 
     private static void conditions() {

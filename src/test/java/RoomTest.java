@@ -31,7 +31,7 @@ public final class RoomTest {
         for (int i = 0; i < 60; i++) {
             x.works(i % 11, i % 6, (i + 1) % 6, 333 + i, 997 - i);
         }
-        for (int i = 0; i < 56; i++) {
+        for (int i = 0; i < 49; i++) {
             x.unit("max;n<3:mid;".charAt(i % 12));
             x.start(i % 6, i, 1000 - i);
             all += x.at(i % 6, 11, 0) + x.worth(i % 12, 0) + x.target(i % 6, 999, 1000) + (x.sums(9) ? 1 : 0);
