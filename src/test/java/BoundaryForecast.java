@@ -9,35 +9,35 @@ final class BoundaryForecast {
     /** The edges of what is one. */
     private static final long[][] FRACTIONS = {{0, 1}, {1, 1}, {0, 1000}, {1, 1000}, {999, 1000}, {1000, 1000}, {0, 999}, {997, 999}};
 
-    private BoundaryForecast() {
-    }
+    static final Check.Call[] TESTS = {
+        BoundaryForecast::at,
+        BoundaryForecast::atOfNone,
+        BoundaryForecast::start,
+        BoundaryForecast::startOfOthers,
+        BoundaryForecast::startInstead,
+        BoundaryForecast::startOfMore,
+        BoundaryForecast::startOfNone,
+        BoundaryForecast::worksInAYear,
+        BoundaryForecast::worksOfNone,
+        BoundaryForecast::worksOfNoFraction,
+        BoundaryForecast::worksOfSameStates,
+        BoundaryForecast::worksTooMany,
+        BoundaryForecast::events,
+        BoundaryForecast::sums,
+        BoundaryForecast::sumsOfNone,
+        BoundaryForecast::worthOfAState,
+        BoundaryForecast::worthOfNoState,
+        BoundaryForecast::worth,
+        BoundaryForecast::worthBelowNought,
+        BoundaryForecast::worthSign,
+        BoundaryForecast::worthBelowTheSign,
+        BoundaryForecast::worthOfNone,
+        BoundaryForecast::target,
+        BoundaryForecast::targetOfNone,
+        BoundaryForecast::targetTooLong,
+    };
 
-    static void all() {
-        at();
-        atOfNone();
-        start();
-        startOfOthers();
-        startInstead();
-        startOfMore();
-        startOfNone();
-        worksInAYear();
-        worksOfNone();
-        worksOfNoFraction();
-        worksOfSameStates();
-        worksTooMany();
-        events();
-        sums();
-        sumsOfNone();
-        worthOfAState();
-        worthOfNoState();
-        worth();
-        worthBelowNought();
-        worthSign();
-        worthBelowTheSign();
-        worthOfNone();
-        target();
-        targetOfNone();
-        targetTooLong();
+    private BoundaryForecast() {
     }
 
     private static void at() {

@@ -1,23 +1,23 @@
 /** A test for each sentence of promises 1, 2, 18, 21 and 22 that names a boundary. */
 final class BoundaryMarks {
-    private BoundaryMarks() {
-    }
+    static final Check.Call[] TESTS = {
+        BoundaryMarks::statesAsTold,
+        BoundaryMarks::tooFewStates,
+        BoundaryMarks::tooManyStates,
+        BoundaryMarks::mark,
+        BoundaryMarks::markOfNone,
+        BoundaryMarks::compared,
+        BoundaryMarks::comparedInLeastTerms,
+        BoundaryMarks::comparedParts,
+        BoundaryMarks::comparedToNothing,
+        BoundaryMarks::comparedOfNone,
+        BoundaryMarks::missing,
+        BoundaryMarks::missingOfNone,
+        BoundaryMarks::kind,
+        BoundaryMarks::kindOfNone,
+    };
 
-    static void all() {
-        statesAsTold();
-        tooFewStates();
-        tooManyStates();
-        mark();
-        markOfNone();
-        compared();
-        comparedInLeastTerms();
-        comparedParts();
-        comparedToNothing();
-        comparedOfNone();
-        missing();
-        missingOfNone();
-        kind();
-        kindOfNone();
+    private BoundaryMarks() {
     }
 
     private static void dueStates(int told, int n) {

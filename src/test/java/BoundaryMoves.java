@@ -3,28 +3,28 @@ final class BoundaryMoves {
     private static final long FACTOR = 6364136223846793005L;
     private static final long MORE = 1442695040888963407L;
 
-    private BoundaryMoves() {
-    }
+    static final Check.Call[] TESTS = {
+        BoundaryMoves::count,
+        BoundaryMoves::least,
+        BoundaryMoves::leastOfNone,
+        BoundaryMoves::share,
+        BoundaryMoves::drawnStays,
+        BoundaryMoves::drawnAsGraded,
+        BoundaryMoves::drawnAsTheLeastThing,
+        BoundaryMoves::drawnFromNought,
+        BoundaryMoves::drawnAboveTheDraw,
+        BoundaryMoves::drawnBySeed,
+        BoundaryMoves::drawnWithoutWorks,
+        BoundaryMoves::drawnOfNone,
+        BoundaryMoves::spanOfTheState,
+        BoundaryMoves::spanEnds,
+        BoundaryMoves::spanParts,
+        BoundaryMoves::spanOfNone,
+        BoundaryMoves::joined,
+        BoundaryMoves::joinedOfNone,
+    };
 
-    static void all() {
-        count();
-        least();
-        leastOfNone();
-        share();
-        drawnStays();
-        drawnAsGraded();
-        drawnAsTheLeastThing();
-        drawnFromNought();
-        drawnAboveTheDraw();
-        drawnBySeed();
-        drawnWithoutWorks();
-        drawnOfNone();
-        spanOfTheState();
-        spanEnds();
-        spanParts();
-        spanOfNone();
-        joined();
-        joinedOfNone();
+    private BoundaryMoves() {
     }
 
     private static void count() {
@@ -327,6 +327,7 @@ final class BoundaryMoves {
             Check.due("from " + noStates[i], -1, x.span(noStates[i], 0, 0, 0));
             Check.due("to " + noStates[i], -1, x.span(0, noStates[i], 1, 1));
             Check.due("end " + noEnds[i], -1, x.span(0, 2, noEnds[i], 0));
+            Check.due("end " + noEnds[i], -1, x.span(0, 2, noEnds[i], 1));
             Check.due("part " + noEnds[i], -1, x.span(2, 0, 0, noEnds[i]));
         }
         Check.due("those that are", 1, x.span(2, 2, 1, 1));

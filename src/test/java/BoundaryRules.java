@@ -2,34 +2,34 @@
 final class BoundaryRules {
     private static final String TERMS = "Terms";
 
-    private BoundaryRules() {
-    }
+    static final Check.Call[] TESTS = {
+        BoundaryRules::rulesInARow,
+        BoundaryRules::valueOrCondition,
+        BoundaryRules::conditions,
+        BoundaryRules::amounts,
+        BoundaryRules::values,
+        BoundaryRules::valueIsAState,
+        BoundaryRules::rowsOfLetters,
+        BoundaryRules::rowsOfDigits,
+        BoundaryRules::singleSigns,
+        BoundaryRules::blanks,
+        BoundaryRules::firstRuleThatHolds,
+        BoundaryRules::byNoRule,
+        BoundaryRules::valuesOfMarks,
+        BoundaryRules::withoutMarks,
+        BoundaryRules::ruleAtFirst,
+        BoundaryRules::signs,
+        BoundaryRules::otherSigns,
+        BoundaryRules::collectedBecomesRules,
+        BoundaryRules::firstWrongWord,
+        BoundaryRules::endsTooEarly,
+        BoundaryRules::rulesStay,
+        BoundaryRules::moreThanTwenty,
+        BoundaryRules::stateOfAThing,
+        BoundaryRules::notGraded,
+    };
 
-    static void all() {
-        rulesInARow();
-        valueOrCondition();
-        conditions();
-        amounts();
-        values();
-        valueIsAState();
-        rowsOfLetters();
-        rowsOfDigits();
-        singleSigns();
-        blanks();
-        firstRuleThatHolds();
-        byNoRule();
-        valuesOfMarks();
-        withoutMarks();
-        ruleAtFirst();
-        signs();
-        otherSigns();
-        collectedBecomesRules();
-        firstWrongWord();
-        endsTooEarly();
-        rulesStay();
-        moreThanTwenty();
-        stateOfAThing();
-        notGraded();
+    private BoundaryRules() {
     }
 
     /** On a new object, as one is good for 512 calls alone. */

@@ -2,33 +2,33 @@
 final class BoundaryTerms {
     private static final String TERMS = "Terms";
 
-    private BoundaryTerms() {
-    }
+    static final Check.Call[] TESTS = {
+        BoundaryTerms::useOfAnObject,
+        BoundaryTerms::states,
+        BoundaryTerms::things,
+        BoundaryTerms::years,
+        BoundaryTerms::persons,
+        BoundaryTerms::kinds,
+        BoundaryTerms::newMarkForOld,
+        BoundaryTerms::moves,
+        BoundaryTerms::groupsGetStates,
+        BoundaryTerms::groupsOfLeastNought,
+        BoundaryTerms::lastGroup,
+        BoundaryTerms::lastGroupAlone,
+        BoundaryTerms::sharesByGroup,
+        BoundaryTerms::sharesOfNone,
+        BoundaryTerms::yearNought,
+        BoundaryTerms::worksInOrder,
+        BoundaryTerms::movesAtOnce,
+        BoundaryTerms::eventsBehindMoves,
+        BoundaryTerms::sixHundredBits,
+        BoundaryTerms::stateThatThereIsNot,
+        BoundaryTerms::leastTerms,
+        BoundaryTerms::lowestEighteen,
+        BoundaryTerms::behindTheLastPart,
+    };
 
-    static void all() {
-        useOfAnObject();
-        states();
-        things();
-        years();
-        persons();
-        kinds();
-        newMarkForOld();
-        moves();
-        groupsGetStates();
-        groupsOfLeastNought();
-        lastGroup();
-        lastGroupAlone();
-        sharesByGroup();
-        sharesOfNone();
-        yearNought();
-        worksInOrder();
-        movesAtOnce();
-        eventsBehindMoves();
-        sixHundredBits();
-        stateThatThereIsNot();
-        leastTerms();
-        lowestEighteen();
-        behindTheLastPart();
+    private BoundaryTerms() {
     }
 
     private static void useOfAnObject() {

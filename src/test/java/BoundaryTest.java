@@ -13,12 +13,11 @@ public final class BoundaryTest {
     private static final Path DOCUMENT = Path.of("..", "shared", "DOC.md");
 
     public static void main(String[] args) throws IOException {
-        BoundaryTerms.all();
-        BoundaryRules.all();
-        BoundaryMarks.all();
-        BoundaryMoves.all();
-        BoundaryForecast.all();
-        Check.endSentence();
+        Check.runAll(BoundaryTerms.TESTS);
+        Check.runAll(BoundaryRules.TESTS);
+        Check.runAll(BoundaryMarks.TESTS);
+        Check.runAll(BoundaryMoves.TESTS);
+        Check.runAll(BoundaryForecast.TESTS);
         System.out.println(Check.quotes().size() + " sentences, or parts of them");
         if (Files.isReadable(DOCUMENT)) {
             compareWithDocument(Files.readString(DOCUMENT));

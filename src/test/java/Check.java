@@ -22,13 +22,24 @@ final class Check {
 
     /** What follows tests these words of the document; they are named where an answer is wrong. */
     static void sentence(String section, String words) {
-        endSentence();
         QUOTES.add(new Quote(section, words));
         about = section + ", \"" + words + "\": ";
         askedBeforeQuote = asked;
     }
 
-    static void endSentence() {
+    /** Runs tests of one sentence each; what one throws does not keep the others from running. */
+    static void runAll(Call[] tests) {
+        for (Call test : tests) {
+            try {
+                test.run();
+            } catch (RuntimeException e) {
+                tell("a call threw " + e);
+            }
+            endSentence();
+        }
+    }
+
+    private static void endSentence() {
         if (!about.isEmpty() && asked == askedBeforeQuote) {
             tell("nothing was asked");
         }
@@ -122,7 +133,6 @@ final class Check {
     }
 
     static void finish() {
-        endSentence();
         System.out.println(asked + " answers, " + wrong + " not as due");
         if (wrong != 0) {
             System.exit(1);

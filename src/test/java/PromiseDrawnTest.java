@@ -9,12 +9,6 @@ public final class PromiseDrawnTest {
         Check.finish();
     }
 
-    private static void walk(StateShares x, int thing, int firstYear, int... states) {
-        for (int i = 0; i < states.length; i++) {
-            Check.yes("mark", x.mark(thing, firstYear + i, 0, states[i]));
-        }
-    }
-
     private static void wrong() {
         StateShares x = new StateShares(3);
         int[][] none = {{-1, 0}, {10, 0}, {0, -1}, {0, 12}, {Integer.MIN_VALUE, 3}, {3, Integer.MAX_VALUE}};
@@ -51,8 +45,8 @@ public final class PromiseDrawnTest {
     private static void manySeeds() {
         StateShares x = new StateShares(3);
         // From 0 one to each state; from 1 one to 0 and one to 2; from 2 two to 0 and one to 2.
-        walk(x, 1, 1, 0, 0, 1, 0, 2, 2, 0);
-        walk(x, 2, 4, 1, 2, 0);
+        Check.walk(x, 1, 1, 0, 0, 1, 0, 2, 2, 0);
+        Check.walk(x, 2, 4, 1, 2, 0);
         long[] seeds = {0, 1, -1, 123456789, Long.MIN_VALUE, Long.MAX_VALUE};
         int[] things = {0, 4, 9};
         // Worked out beside the program.
@@ -77,8 +71,8 @@ public final class PromiseDrawnTest {
     private static void exactlyAtTheDraw() {
         StateShares x = new StateShares(3);
         // Half of 0 goes to 1, half to 2.
-        walk(x, 0, 1, 0, 1);
-        walk(x, 1, 1, 0, 2);
+        Check.walk(x, 0, 1, 0, 1);
+        Check.walk(x, 1, 1, 0, 2);
         Check.due("a draw of 2^30 - 1", 1, x.drawn(6637699833026147452L, 3, 1));
         Check.due("a draw of 2^30: the half is not above it", 2, x.drawn(-8396690539380904235L, 3, 1));
         Check.due("a draw of 0 passes over shares of 0", 1, x.drawn(-558294069723180398L, 3, 1));
@@ -87,12 +81,12 @@ public final class PromiseDrawnTest {
 
     private static void notByWorks() {
         StateShares x = new StateShares(2);
-        walk(x, 0, 0, 0, 0);
+        Check.walk(x, 0, 0, 0, 0);
         x.works(0, 0, 1, 1, 1);
         x.event(1, 0, 1, 1, 1);
         x.start(1, 1, 1);
         Check.due("works, events and start do not matter", 0, x.drawn(9, 0, 11));
-        walk(x, 1, 0, 0, 1);
+        Check.walk(x, 1, 0, 0, 1);
         Check.due("the greatest draw goes to the last state that has a share", 1, x.drawn(-2585672203825628347L, 0, 1));
         x.mark(1, 1, 0, 0);
         Check.due("the same draw, once none moves", 0, x.drawn(-2585672203825628347L, 0, 1));

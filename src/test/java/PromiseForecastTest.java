@@ -15,16 +15,11 @@ public final class PromiseForecastTest {
         Check.finish();
     }
 
-    private static void dueAt(StateShares x, int state, int year, long above, long below) {
-        Check.due("at(" + state + ", " + year + ", 0)", above, x.at(state, year, 0));
-        Check.due("at(" + state + ", " + year + ", 1)", below, x.at(state, year, 1));
-    }
-
     private static void atFirst() {
         StateShares x = new StateShares(3);
         for (int year = 0; year < 12; year++) {
-            dueAt(x, 0, year, 1, 1);
-            dueAt(x, 1, year, 0, 1);
+            Check.at(x, 0, year, 1, 1);
+            Check.at(x, 1, year, 0, 1);
         }
         Check.due("at(0, -1, 0)", -1, x.at(0, -1, 0));
         Check.due("at(0, 12, 0)", -1, x.at(0, 12, 0));
@@ -34,20 +29,20 @@ public final class PromiseForecastTest {
         x.mark(0, 1, 0, 0);
         x.mark(0, 2, 0, 1);
         x.mark(0, 3, 0, 2);
-        dueAt(x, 0, 1, 1, 2);
-        dueAt(x, 1, 1, 1, 2);
-        dueAt(x, 2, 1, 0, 1);
-        dueAt(x, 0, 2, 1, 4);
-        dueAt(x, 1, 2, 1, 4);
-        dueAt(x, 2, 2, 1, 2);
-        dueAt(x, 2, 11, 1023, 1024);
+        Check.at(x, 0, 1, 1, 2);
+        Check.at(x, 1, 1, 1, 2);
+        Check.at(x, 2, 1, 0, 1);
+        Check.at(x, 0, 2, 1, 4);
+        Check.at(x, 1, 2, 1, 4);
+        Check.at(x, 2, 2, 1, 2);
+        Check.at(x, 2, 11, 1023, 1024);
         x.mark(0, 1, 0, 1);
         x.mark(0, 2, 0, 0);
-        dueAt(x, 0, 1, 0, 1);
+        Check.at(x, 0, 1, 0, 1);
         x.least(50);
         // Steps 1, -1, 2: from 0 to 1 and 2 by halves.
-        dueAt(x, 1, 1, 1, 2);
-        dueAt(x, 2, 1, 1, 2);
+        Check.at(x, 1, 1, 1, 2);
+        Check.at(x, 2, 1, 1, 2);
     }
 
     private static void parts() {
@@ -78,24 +73,24 @@ public final class PromiseForecastTest {
         for (long[] a : wrong) {
             Check.no("start(" + a[0] + ", " + a[1] + ", " + a[2] + ")", x.start((int) a[0], a[1], a[2]));
         }
-        dueAt(x, 0, 0, 1, 1);
+        Check.at(x, 0, 0, 1, 1);
         Check.yes("start(2, 250, 1000)", x.start(2, 250, 1000));
-        dueAt(x, 0, 0, 0, 1);
-        dueAt(x, 1, 0, 0, 1);
-        dueAt(x, 2, 0, 1, 4);
+        Check.at(x, 0, 0, 0, 1);
+        Check.at(x, 1, 0, 0, 1);
+        Check.at(x, 2, 0, 1, 4);
         Check.yes("start(0, 2, 3)", x.start(0, 2, 3));
-        dueAt(x, 0, 0, 2, 3);
-        dueAt(x, 2, 0, 1, 4);
+        Check.at(x, 0, 0, 2, 3);
+        Check.at(x, 2, 0, 1, 4);
         Check.yes("start(2, 1, 1), instead", x.start(2, 1, 1));
-        dueAt(x, 2, 0, 1, 1);
-        dueAt(x, 2, 11, 1, 1);
-        dueAt(x, 0, 11, 2, 3);
+        Check.at(x, 2, 0, 1, 1);
+        Check.at(x, 2, 11, 1, 1);
+        Check.at(x, 0, 11, 2, 3);
         Check.yes("start(0, 0, 1000)", x.start(0, 0, 1000));
-        dueAt(x, 0, 0, 0, 1);
+        Check.at(x, 0, 0, 0, 1);
         StateShares y = new StateShares(3);
         Check.yes("start(0, 0, 1)", y.start(0, 0, 1));
-        dueAt(y, 0, 5, 0, 1);
-        dueAt(y, 1, 5, 0, 1);
+        Check.at(y, 0, 5, 0, 1);
+        Check.at(y, 1, 5, 0, 1);
     }
 
     private static void worksAndEvents() {
@@ -104,26 +99,26 @@ public final class PromiseForecastTest {
         x.mark(0, 0, 0, 0);
         x.mark(0, 1, 0, 1);
         Check.yes("works(0, 0, 2, 1, 3)", x.works(0, 0, 2, 1, 3));
-        dueAt(x, 0, 0, 1, 1);
-        dueAt(x, 0, 1, 0, 1);
-        dueAt(x, 1, 1, 2, 3);
-        dueAt(x, 2, 1, 1, 3);
+        Check.at(x, 0, 0, 1, 1);
+        Check.at(x, 0, 1, 0, 1);
+        Check.at(x, 1, 1, 2, 3);
+        Check.at(x, 2, 1, 1, 3);
         Check.yes("event(0, 1, 0, 1, 2)", x.event(0, 1, 0, 1, 2));
-        dueAt(x, 0, 1, 1, 3);
-        dueAt(x, 1, 1, 1, 3);
+        Check.at(x, 0, 1, 1, 3);
+        Check.at(x, 1, 1, 1, 3);
         // In the order in which they were told: a third to 2 first, then half of that back.
         Check.yes("works(0, 2, 0, 1, 2)", x.works(0, 2, 0, 1, 2));
-        dueAt(x, 2, 1, 1, 6);
-        dueAt(x, 0, 1, 5, 12);
-        dueAt(x, 1, 1, 5, 12);
+        Check.at(x, 2, 1, 1, 6);
+        Check.at(x, 0, 1, 5, 12);
+        Check.at(x, 1, 1, 5, 12);
         Check.yes("event(10, 2, 1, 1, 1)", x.event(10, 2, 1, 1, 1));
-        dueAt(x, 2, 10, 1, 6);
-        dueAt(x, 2, 11, 0, 1);
+        Check.at(x, 2, 10, 1, 6);
+        Check.at(x, 2, 11, 0, 1);
         Check.yes("works(10, 1, 2, 0, 7)", x.works(10, 1, 2, 0, 7));
-        dueAt(x, 2, 11, 0, 1);
+        Check.at(x, 2, 11, 0, 1);
         Check.yes("works of all", x.works(3, 2, 1, 5, 5));
-        dueAt(x, 2, 3, 1, 6);
-        dueAt(x, 2, 4, 0, 1);
+        Check.at(x, 2, 3, 1, 6);
+        Check.at(x, 2, 4, 0, 1);
     }
 
     private static void wrongTransfers() {
@@ -135,7 +130,7 @@ public final class PromiseForecastTest {
             Check.no("event of none such", x.event((int) a[0], (int) a[1], (int) a[2], a[3], a[4]));
         }
         for (int year = 0; year < 12; year++) {
-            dueAt(x, 0, year, 1, 1);
+            Check.at(x, 0, year, 1, 1);
         }
     }
 
@@ -145,14 +140,14 @@ public final class PromiseForecastTest {
             Check.yes("works number " + i, x.works(4, 0, 1, 1, 2));
         }
         Check.no("works number 12", x.works(4, 0, 1, 1, 2));
-        dueAt(x, 0, 5, 1, 4096);
+        Check.at(x, 0, 5, 1, 4096);
         Check.yes("works of another year", x.works(5, 0, 1, 1, 2));
         for (int i = 0; i < 12; i++) {
             Check.yes("event number " + i, x.event(4, 0, 1, 1, 2));
         }
         Check.no("event number 12", x.event(4, 0, 1, 1, 2));
-        dueAt(x, 0, 4, 1, 1);
-        dueAt(x, 0, 5, 1, 4096 * 4096);
+        Check.at(x, 0, 4, 1, 1);
+        Check.at(x, 0, 5, 1, 4096 * 4096);
     }
 
     /** Leaves 2^-9 of what state 0 has, so often, 24 times a year at most. */
@@ -189,9 +184,9 @@ public final class PromiseForecastTest {
         Check.yes("all back to 0, later", x.works(7, 1, 0, 1, 1));
         Check.due("all behind it stay too long", -1, x.at(0, 8, 0));
         Check.yes("all back to 0, before", x.event(4, 1, 0, 1, 1));
-        dueAt(x, 0, 5, 1, 1);
-        dueAt(x, 0, 6, 1, 2);
-        dueAt(x, 0, 8, 1, 1);
+        Check.at(x, 0, 5, 1, 1);
+        Check.at(x, 0, 6, 1, 2);
+        Check.at(x, 0, 8, 1, 1);
         Check.throwsIndex("a state that there is not", () -> x.at(3, 6, 0));
     }
 
@@ -217,7 +212,7 @@ public final class PromiseForecastTest {
         halveByNines(x, 70);
         Check.due("behind 70 times too long", -1, x.at(0, 3, 0));
         Check.yes("all back in the same year", x.event(2, 1, 0, 1, 1));
-        dueAt(x, 0, 3, 1, 1);
+        Check.at(x, 0, 3, 1, 1);
     }
 
     private static void sums() {
@@ -256,8 +251,8 @@ public final class PromiseForecastTest {
         for (int s = 0; s < 6; s++) {
             x.start(s, 1, 6);
         }
-        dueAt(x, 0, 1, 899452538261L, 5580414502740L);
-        dueAt(x, 5, 1, 4859439121L, 28471502565L);
+        Check.at(x, 0, 1, 899452538261L, 5580414502740L);
+        Check.at(x, 5, 1, 4859439121L, 28471502565L);
         long[] last = {326104284085528171L, 213255650000000000L, 809116014340730927L, 245146168726325267L, 470540704669421854L,
             427781554499470569L, 513884677254721760L, 182183431251343038L, 347372416372204073L, 905047637963484140L,
             381664186717595928L, 84740605163570205L, 636458106641178847L, 942988675512143573L, 2692L, 13789L, 0L, 0L};

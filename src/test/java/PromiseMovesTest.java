@@ -10,20 +10,11 @@ public final class PromiseMovesTest {
         Check.finish();
     }
 
-    /** A thing's states in years from 0 on; -1 leaves a year out. */
-    private static void walk(StateShares x, int thing, int... states) {
-        for (int year = 0; year < states.length; year++) {
-            if (states[year] >= 0) {
-                Check.yes("mark", x.mark(thing, year, 0, states[year]));
-            }
-        }
-    }
-
     private static void count() {
         StateShares x = new StateShares(3);
         Check.due("count of nothing", 0, x.count(0, 0));
-        walk(x, 0, 0, 0, 1, 1, 2);
-        walk(x, 1, 0, -1, 1, 2, 2, 0);
+        Check.walk(x, 0, 0, 0, 0, 1, 1, 2);
+        Check.walk(x, 1, 0, 0, -1, 1, 2, 2, 0);
         Check.due("count(0, 0)", 1, x.count(0, 0));
         Check.due("count(0, 1), not over a gap", 1, x.count(0, 1));
         Check.due("count(1, 1)", 1, x.count(1, 1));
@@ -52,7 +43,7 @@ public final class PromiseMovesTest {
         Check.due("LEAST 0: each state by itself", 0, x.joined(2, 3));
         Check.yes("least(1)", x.least(1));
         // Moves from 0: 1, from 1: 2, from 2: 0, from 3: 1.
-        walk(x, 0, 0, 1, 1, 3, 3);
+        Check.walk(x, 0, 0, 0, 1, 1, 3, 3);
         Check.due("joined(0, 1)", 0, x.joined(0, 1));
         Check.due("joined(1, 2)", 0, x.joined(1, 2));
         Check.due("2 has none and goes with 3", 1, x.joined(2, 3));
@@ -72,7 +63,7 @@ public final class PromiseMovesTest {
     private static void groupsAtTheEnd() {
         StateShares x = new StateShares(6);
         // Moves from 0: 3, from 1: 1, from 2: 1, from 3: 0, from 4: 2, from 5: 1.
-        walk(x, 0, 0, 0, 0, 1, 2, 4, 4, 5, 5);
+        Check.walk(x, 0, 0, 0, 0, 0, 1, 2, 4, 4, 5, 5);
         x.least(2);
         int[] groups = {0, 1, 1, 2, 2, 2};
         for (int a = 0; a < 6; a++) {
@@ -89,49 +80,44 @@ public final class PromiseMovesTest {
         }
     }
 
-    private static void dueShare(StateShares x, int from, int to, long above, long below) {
-        Check.due("share(" + from + ", " + to + ", 0)", above, x.share(from, to, 0));
-        Check.due("share(" + from + ", " + to + ", 1)", below, x.share(from, to, 1));
-    }
-
     private static void share() {
         StateShares x = new StateShares(3);
-        dueShare(x, 0, 0, 1, 1);
-        dueShare(x, 0, 1, 0, 1);
-        dueShare(x, 2, 2, 1, 1);
-        walk(x, 0, 0, 0, 0, 1, 2, 1);
-        walk(x, 1, 0, 2, 2);
+        Check.share(x, 0, 0, 1, 1);
+        Check.share(x, 0, 1, 0, 1);
+        Check.share(x, 2, 2, 1, 1);
+        Check.walk(x, 0, 0, 0, 0, 0, 1, 2, 1);
+        Check.walk(x, 1, 0, 0, 2, 2);
         // From 0: 2 to 0, 1 to 1, 1 to 2; from 1: 1 to 2; from 2: 1 to 1, 1 to 2.
-        dueShare(x, 0, 0, 1, 2);
-        dueShare(x, 0, 1, 1, 4);
-        dueShare(x, 0, 2, 1, 4);
-        dueShare(x, 1, 0, 0, 1);
-        dueShare(x, 1, 2, 1, 1);
-        dueShare(x, 2, 1, 1, 2);
+        Check.share(x, 0, 0, 1, 2);
+        Check.share(x, 0, 1, 1, 4);
+        Check.share(x, 0, 2, 1, 4);
+        Check.share(x, 1, 0, 0, 1);
+        Check.share(x, 1, 2, 1, 1);
+        Check.share(x, 2, 1, 1, 2);
         int[] parts = {2, 3, -1, -2, 1000, Integer.MAX_VALUE, Integer.MIN_VALUE};
         for (int part : parts) {
             Check.due("share(0, 0, " + part + ")", 0, x.share(0, 0, part));
         }
         x.least(3);
         // Groups 0, and 1 with 2: steps -1: 1, 0: 1, 1: 1.
-        dueShare(x, 0, 0, 1, 2);
-        dueShare(x, 1, 0, 1, 3);
-        dueShare(x, 1, 1, 1, 3);
-        dueShare(x, 1, 2, 1, 3);
-        dueShare(x, 2, 0, 0, 1);
-        dueShare(x, 2, 1, 1, 2);
-        dueShare(x, 2, 2, 1, 2);
+        Check.share(x, 0, 0, 1, 2);
+        Check.share(x, 1, 0, 1, 3);
+        Check.share(x, 1, 1, 1, 3);
+        Check.share(x, 1, 2, 1, 3);
+        Check.share(x, 2, 0, 0, 1);
+        Check.share(x, 2, 1, 1, 2);
+        Check.share(x, 2, 2, 1, 2);
         x.least(50);
         // One group, steps -1: 1, 0: 3, 1: 2, 2: 1; what would leave the states does not count.
-        dueShare(x, 0, 0, 1, 2);
-        dueShare(x, 0, 1, 1, 3);
-        dueShare(x, 0, 2, 1, 6);
-        dueShare(x, 1, 0, 1, 6);
-        dueShare(x, 1, 1, 1, 2);
-        dueShare(x, 1, 2, 1, 3);
-        dueShare(x, 2, 0, 0, 1);
-        dueShare(x, 2, 1, 1, 4);
-        dueShare(x, 2, 2, 3, 4);
+        Check.share(x, 0, 0, 1, 2);
+        Check.share(x, 0, 1, 1, 3);
+        Check.share(x, 0, 2, 1, 6);
+        Check.share(x, 1, 0, 1, 6);
+        Check.share(x, 1, 1, 1, 2);
+        Check.share(x, 1, 2, 1, 3);
+        Check.share(x, 2, 0, 0, 1);
+        Check.share(x, 2, 1, 1, 4);
+        Check.share(x, 2, 2, 3, 4);
     }
 
     private static void span() {
@@ -140,8 +126,8 @@ public final class PromiseMovesTest {
         Check.due("span of nothing, end 0", 1, x.span(0, 0, 0, 1));
         Check.due("span of nothing, end 1", 1, x.span(0, 0, 1, 0));
         Check.due("span of nothing, end 1", 1, x.span(0, 0, 1, 1));
-        walk(x, 0, 0, 0, 0, 1);
-        walk(x, 1, 0, 1, 1);
+        Check.walk(x, 0, 0, 0, 0, 0, 1);
+        Check.walk(x, 1, 0, 0, 1, 1);
         // From 0: 2 to 0 and 2 to 1.
         Check.due("2 by 6", 1, x.span(0, 0, 0, 0));
         Check.due("2 by 6", 3, x.span(0, 0, 0, 1));

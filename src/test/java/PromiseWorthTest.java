@@ -8,27 +8,21 @@ public final class PromiseWorthTest {
         Check.finish();
     }
 
-    private static void dueWorth(StateShares x, int year, int sign, long above, long below) {
-        Check.due("worth(" + year + ", -1)", sign, x.worth(year, -1));
-        Check.due("worth(" + year + ", 0)", above, x.worth(year, 0));
-        Check.due("worth(" + year + ", 1)", below, x.worth(year, 1));
-    }
-
     private static void part2() {
         StateShares x = new StateShares(3);
-        dueWorth(x, 0, 0, 0, 1);
+        Check.worth(x, 0, 0, 0, 1);
         Check.no("part2(-1, 0)", x.part2(-1, 0));
         Check.no("part2(3, 0)", x.part2(3, 0));
         Check.no("part2(0, 1000001)", x.part2(0, 1000001));
         Check.no("part2(0, -1000001)", x.part2(0, -1000001));
         Check.no("part2(0, 2^32)", x.part2(0, 1L << 32));
-        dueWorth(x, 0, 0, 0, 1);
+        Check.worth(x, 0, 0, 0, 1);
         Check.yes("part2(0, 1000000)", x.part2(0, 1000000));
-        dueWorth(x, 0, 1, 1000000, 1);
+        Check.worth(x, 0, 1, 1000000, 1);
         Check.yes("part2(0, -1000000)", x.part2(0, -1000000));
-        dueWorth(x, 0, -1, 1000000, 1);
+        Check.worth(x, 0, -1, 1000000, 1);
         Check.yes("part2(0, 0)", x.part2(0, 0));
-        dueWorth(x, 11, 0, 0, 1);
+        Check.worth(x, 11, 0, 0, 1);
     }
 
     private static void worth() {
@@ -37,19 +31,19 @@ public final class PromiseWorthTest {
         x.works(2, 0, 2, 3, 5);
         // Behind year 2: 1/3, 1/6, 1/2.
         x.part2(0, 9);
-        dueWorth(x, 2, 1, 9, 1);
-        dueWorth(x, 3, 1, 3, 1);
+        Check.worth(x, 2, 1, 9, 1);
+        Check.worth(x, 3, 1, 3, 1);
         int[] below = {-2, -3, Integer.MIN_VALUE};
         for (int part : below) {
             Check.due("worth(3, " + part + ")", 0, x.worth(3, part));
         }
         x.part2(1, 5);
-        dueWorth(x, 3, 1, 23, 6);
+        Check.worth(x, 3, 1, 23, 6);
         x.part2(2, -20);
-        dueWorth(x, 3, -1, 37, 6);
-        dueWorth(x, 2, 1, 9, 1);
+        Check.worth(x, 3, -1, 37, 6);
+        Check.worth(x, 2, 1, 9, 1);
         x.part2(1, 42);
-        dueWorth(x, 3, 0, 0, 1);
+        Check.worth(x, 3, 0, 0, 1);
         int[] none = {-2, -3, Integer.MIN_VALUE, 2, 3, 4000, Integer.MAX_VALUE};
         for (int part : none) {
             Check.due("worth(11, " + part + ")", 0, x.worth(11, part));
@@ -59,13 +53,13 @@ public final class PromiseWorthTest {
         Check.due("worth(12, -1)", -1, x.worth(12, -1));
         Check.due("worth(12, -2)", -1, x.worth(12, -2));
         x.start(1, 1, 7);
-        dueWorth(x, 0, 1, 6, 1);
+        Check.worth(x, 0, 1, 6, 1);
         x.mark(0, 0, 0, 1);
         x.mark(0, 1, 0, 2);
-        dueWorth(x, 0, 1, 6, 1);
-        dueWorth(x, 1, -1, 20, 7);
+        Check.worth(x, 0, 1, 6, 1);
+        Check.worth(x, 1, -1, 20, 7);
         x.event(0, 2, 1, 1, 2);
-        dueWorth(x, 1, 1, 11, 7);
+        Check.worth(x, 1, 1, 11, 7);
     }
 
     private static void longWorth() {
